@@ -725,6 +725,22 @@ public final class RankRingsTest {
         fault(twelve.substring(0, 34) + ";", 34, 1);
     }
 
+    static void promise22FaultOfALaterText() {
+        RankRings rings = field("e0:1,2;e0;e0:2");
+        type(rings, "e0");
+        due("nothing is left of an earlier text", rings.fault(0), NOT_FOUND);
+        due("read", rings.read(), 1);
+        due("ways", rings.placeOf(0, 2), 0);
+        rings.clearText();
+        for (int i = 0; i < 40; i++) {
+            due("too early", rings.fault(0), 0);
+        }
+        type(rings, "e0:0,0");
+        for (int i = 0; i < 90; i++) {
+            due("twice", rings.fault(0), 5);
+        }
+    }
+
     static void promise22FaultAtTheEnd() {
         StringBuilder text = new StringBuilder("e0:");
         for (int way = 10; way < 35; way++) {
