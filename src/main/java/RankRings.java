@@ -109,6 +109,7 @@ public final class RankRings {
             case 3:
                 return field.waysTo(place);
             case 4:
+                findWinners();
                 return winnerFrom(place);
             case 5:
                 findChoices();
@@ -125,8 +126,10 @@ public final class RankRings {
             case 1:
                 return field.numberOfWays();
             case 2:
+                findWinners();
                 return winsOf(0);
             case 3:
+                findWinners();
                 return winsOf(1);
             case 4:
                 return field.endsOf(0) | field.endsOf(1);
@@ -250,6 +253,7 @@ public final class RankRings {
         if (!field.has(place) || what < 0 || what > 1) {
             return INVALID_ARGUMENT;
         }
+        findWinners();
         trial.copyFrom(field);
         for (int difference = 1; difference < RANKS; difference++) {
             for (int changed = 0; changed < field.size; changed++) {
@@ -369,24 +373,29 @@ public final class RankRings {
         choicesKnown = false;
     }
 
-    /** The places from which a player wins. */
-    private int winsOf(int player) {
+    /** Who asks winsOf or winnerFrom calls this before. */
+    private void findWinners() {
         if (!winnersKnown) {
             winsOf0 = Solver.winsOf0(field);
             winnersKnown = true;
         }
+    }
+
+    /** The places from which a player wins. */
+    private int winsOf(int player) {
         return player == 0 ? winsOf0 : field.all() & ~winsOf0;
     }
 
     private int winnerFrom(int place) {
-        return contains(winsOf(0), place) ? 0 : 1;
+        return contains(winsOf0, place) ? 0 : 1;
     }
 
-    /** Finds both players' choices; that of a place without ways is NOT_FOUND. */
+    /** Finds the winners and both players' choices; that of a place without ways is NOT_FOUND. */
     private void findChoices() {
         if (choicesKnown) {
             return;
         }
+        findWinners();
         trial.copyFrom(field);
         for (int place = 0; place < field.size; place++) {
             int ways = field.ways[place];

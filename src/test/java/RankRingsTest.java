@@ -6,77 +6,20 @@ import java.util.Set;
 import java.util.TreeSet;
 
 /** A test or more for each promise: ordinary inputs, the edges, and wrong inputs. */
-public final class RankRingsTest {
-    private static final int INVALID = -1;
-    private static final int NOT_POSSIBLE = -2;
-    private static final int LIMIT = -3;
-    private static final int NOT_FOUND = -4;
+public final class RankRingsTest extends Checks {
     private static final int[] NO_PLAYERS = {Integer.MIN_VALUE, -1, 2, 32, Integer.MAX_VALUE};
     private static final int[] NO_RANKS = {Integer.MIN_VALUE, -1, 6, Integer.MAX_VALUE};
 
-    private static int passed = 0;
-    private static int failed = 0;
-
     public static void main(String[] args) throws Exception {
-        for (Method method : RankRingsTest.class.getDeclaredMethods()) {
-            if (method.getName().startsWith("promise") || method.getName().startsWith("face")) {
-                method.invoke(null);
-            }
-        }
-        System.out.println("promises: " + passed + " checks as due, " + failed + " not");
-        if (failed > 0 || passed == 0) {
-            System.exit(1);
-        }
+        runAll(RankRingsTest.class);
     }
 
-    private static void due(String what, int got, int due) {
-        if (got == due) {
-            passed++;
-        } else {
-            failed++;
-            System.out.println(what + ": " + got + ", due is " + due);
-        }
-    }
-
-    private static void type(RankRings rings, String text) {
-        for (char character : text.toCharArray()) {
-            rings.type(character);
-        }
-    }
-
-    /** An object that has read a text; its history holds one state. */
-    private static RankRings field(String text) {
-        RankRings rings = new RankRings();
-        type(rings, text);
-        rings.read();
-        rings.clearText();
-        return rings;
-    }
-
-    /** All that can be asked about the state, to see that nothing has changed. */
     private static String state(RankRings rings) {
-        StringBuilder state = new StringBuilder(fieldOf(rings));
-        for (int what = 6; what <= 8; what++) {
-            state.append(rings.count(what)).append(' ');
-        }
-        return state.append(rings.fault(0)).append(' ').append(rings.fault(1)).toString();
-    }
-
-    private static String fieldOf(RankRings rings) {
-        StringBuilder state = new StringBuilder();
-        for (int what = 0; what <= 5; what++) {
-            state.append(rings.count(what)).append(' ');
-        }
-        for (int place = 0; place < rings.count(0); place++) {
-            for (int what = 0; what <= 5; what++) {
-                state.append(rings.placeOf(place, what)).append(' ');
-            }
-        }
-        return state.toString();
+        return whole(rings) + besides(rings);
     }
 
     private static void unchanged(String what, RankRings rings, String before) {
-        due(what + " changes nothing", state(rings).equals(before) ? 1 : 0, 1);
+        same(what + " changes nothing", state(rings), before);
     }
 
     // ---- the face
@@ -585,17 +528,17 @@ public final class RankRingsTest {
     static void promise19UndoOfEachChange() {
         RankRings rings = field("e1:0,1;o2:1");
         String[] fields = new String[4];
-        fields[0] = fieldOf(rings);
+        fields[0] = whole(rings);
         rings.own(0, 1);
-        fields[1] = fieldOf(rings);
+        fields[1] = whole(rings);
         rings.rank(1, 5);
-        fields[2] = fieldOf(rings);
+        fields[2] = whole(rings);
         rings.way(1, 0, 1);
-        fields[3] = fieldOf(rings);
+        fields[3] = whole(rings);
         rings.drop(0);
         for (int i = 3; i >= 0; i--) {
             due("undo", rings.undo(), i);
-            due("field " + i + " again", fieldOf(rings).equals(fields[i]) ? 1 : 0, 1);
+            due("field " + i + " again", whole(rings).equals(fields[i]) ? 1 : 0, 1);
         }
     }
 
