@@ -614,7 +614,7 @@ public final class RankRings {
         static int pullOnce(Field field, int player, int region, int arena) {
             int wider = region;
             for (int place = 0; place < field.size; place++) {
-                if (contains(arena & ~region, place)) {
+                if ((arena & ~region & 1 << place) != 0) {
                     int ways = field.ways[place] & arena;
                     int into = ways & region;
                     if (into != 0 && (field.owners[place] == player || into == ways)) {

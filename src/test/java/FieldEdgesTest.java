@@ -159,7 +159,10 @@ public final class FieldEdgesTest extends Checks {
         due("its owner loses", rings.placeOf(2, 4), 0);
         rings.drop(1);
         rings.drop(1);
+        due("asked before", rings.placeOf(0, 4), 0);
         rings.add(0, 2);
+        due("its owner loses", rings.placeOf(1, 4), 1);
+        due("no choice", rings.placeOf(1, 5), NOT_FOUND);
         same("nothing is left of a place with this number", told(rings), "e0:0;e2");
         rings.undo();
         rings.undo();

@@ -13,7 +13,7 @@ public final class HistoryEdgesTest extends Checks {
 
     /** Each kind of change once: what it makes of the start, with the text "o4:0;e3". */
     private static final String[] AFTER_CHANGE = {"e1:0,1;o2:1,2;e5:0;o4", "e1:0,1;e2:1,2;e5:0", "e1:0,1;o2:1,2;e0:0",
-        "e1:0,1,2;o2:1,2;e5:0", "e1:0,1;o2:1;e5:0", "e1:0;e5:0", "e3:0", "o4:0;e3"};
+        "e1:0,1,2;o2:1,2;e5:0", "e1:0,1;o2:1;e5:0", "e1:0;e5:0", "e2:0", "o4:0;e3", "e1:0,1;o2:1,2;e5:0;e5"};
 
     private static int change(RankRings rings, int kind) {
         switch (kind) {
@@ -24,14 +24,15 @@ public final class HistoryEdgesTest extends Checks {
             case 4: return rings.way(1, 2, 0);
             case 5: return rings.drop(1);
             case 6: return rings.restore();
-            default: return rings.read();
+            case 7: return rings.read();
+            default: return rings.add(0, 5);
         }
     }
 
-    /** An object with the start, the snapshot "e3:0", the text "o4:0;e3", and one state in its history. */
+    /** An object with the start, the snapshot "e2:0", the text "o4:0;e3", and one state in its history. */
     private static RankRings start() {
         RankRings rings = new RankRings();
-        type(rings, "e3:0");
+        type(rings, "e2:0");
         rings.read();
         rings.keep();
         rings.undo();
@@ -227,9 +228,11 @@ public final class HistoryEdgesTest extends Checks {
             RankRings rings = start();
             String before = whole(rings);
             change(rings, kind);
-            due("found for the changed field", whole(rings).equals(before) ? 1 : 0, 0);
+            RankRings notAsked = start();
+            change(notAsked, kind);
+            same("found anew after change " + kind, whole(rings), whole(notAsked));
             rings.undo();
-            same("found anew", whole(rings), before);
+            same("found anew after undo", whole(rings), before);
         }
     }
 

@@ -5,8 +5,10 @@ import java.nio.file.Files;
 import java.nio.file.Path;
 import java.util.ArrayDeque;
 import java.util.Deque;
+import java.util.HashMap;
 import java.util.HashSet;
 import java.util.List;
+import java.util.Map;
 import java.util.Set;
 import javax.lang.model.element.Modifier;
 import javax.tools.JavaCompiler;
@@ -29,6 +31,7 @@ public final class LanguageTest extends TreeScanner<Void, Void> {
     private final Set<String> publicMethods = new HashSet<>();
     private final Deque<String> classes = new ArrayDeque<>();
     private final Deque<String> methods = new ArrayDeque<>();
+    private final Map<String, Set<String>> calls = new HashMap<>();
     private int classCount = 0;
     private static int faults = 0;
 
@@ -47,6 +50,7 @@ public final class LanguageTest extends TreeScanner<Void, Void> {
                 test.collectPublic((ClassTree) unit.getTypeDecls().get(0));
                 test.scan(unit, null);
                 check(test.classCount <= 12, "number of classes");
+                test.checkDepths();
                 checkLengths(source);
             }
         }
@@ -144,6 +148,35 @@ public final class LanguageTest extends TreeScanner<Void, Void> {
         super.visitMethod(method, nothing);
         methods.pop();
         return null;
+    }
+
+    @Override
+    public Void visitMethodInvocation(MethodInvocationTree call, Void nothing) {
+        String text = call.getMethodSelect().toString();
+        if (!methods.isEmpty()) {
+            calls.computeIfAbsent(methods.peek(), name -> new HashSet<>()).add(text.substring(text.lastIndexOf('.') + 1));
+        }
+        return super.visitMethodInvocation(call, nothing);
+    }
+
+    private void checkDepths() {
+        for (String name : publicMethods) {
+            int depth = depth(name, new HashSet<>());
+            check(depth <= 8, "calls of " + name + " go " + depth + " deep");
+        }
+    }
+
+    /** How many calls stand open at once, but for recursion; methods of one name are taken for one. */
+    private int depth(String name, Set<String> open) {
+        if (!open.add(name)) {
+            return 0;
+        }
+        int deepest = 0;
+        for (String called : calls.getOrDefault(name, Set.of())) {
+            deepest = Math.max(deepest, depth(called, open));
+        }
+        open.remove(name);
+        return deepest + 1;
     }
 
     @Override

@@ -41,9 +41,9 @@ public final class PlayEdgesTest extends Checks {
         play("e5:1;e5:2;e2:3;e1:2", 2, 2, 2, 2, 0);
         play("e5:1;e5:2;e2:3;e1:2", 3, 2, 3, 2, 0);
         String twelve = "e0:11;e1:0;o2:1;e3:2;o4:3;e3:4;o0:5;e1:6;o2:7;e3:8;o2:9;e1:10";
-        play(twelve, 0, 12, 0, 4, 0);
-        play(twelve, 5, 12, 5, 4, 0);
-        play(twelve, 11, 12, 11, 4, 0);
+        for (int place = 0; place < 12; place++) {
+            play(twelve, place, 12, place, 4, 0);
+        }
         String longWay = "o0:0;e1:0;o2:1;e3:2;o4:3;e5:4;o0:5;e1:6;o2:7;e3:8;o4:9;e5:10";
         play(longWay, 11, 12, 0, 0, 0);
         play(longWay, 1, 2, 0, 0, 0);

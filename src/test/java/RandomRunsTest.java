@@ -7,6 +7,12 @@ public final class RandomRunsTest {
     private static final int[] WRONG = {Integer.MIN_VALUE, -13, -2, -1, 6, 12, 13, 31, 32, 33, 64, 4096,
         1 << 30, Integer.MAX_VALUE};
 
+    /** What is promised of an object ends with this call. */
+    private static final int CALLS = 512;
+
+    /** As many calls as compareAll makes at most. */
+    private static final int COMPARISON = 190;
+
     private final Random random;
     private final RankRings rings = new RankRings();
     private final Model model = new Model();
@@ -17,14 +23,17 @@ public final class RandomRunsTest {
     }
 
     public static void main(String[] args) {
-        int runs = args.length > 0 ? Integer.parseInt(args[0]) : 150;
+        int runs = args.length > 0 ? Integer.parseInt(args[0]) : 400;
         for (int seed = 0; seed < runs; seed++) {
             new RandomRunsTest(seed).run();
         }
-        for (int seed = 0; seed < 20 * runs; seed++) {
+        for (int seed = runs; seed < runs + runs / 2; seed++) {
+            new RandomRunsTest(seed).compareField();
+        }
+        for (int seed = 0; seed < 10 * runs; seed++) {
             compareTexts(scattered(seed));
         }
-        for (int seed = 0; seed < 5 * runs; seed++) {
+        for (int seed = 0; seed < 3 * runs; seed++) {
             compareWithStrategies(scattered(seed));
         }
         System.out.println("random runs: as due");
@@ -37,8 +46,8 @@ public final class RandomRunsTest {
 
     private void run() {
         int style = random.nextInt(4);
-        for (int i = 0; i < 512; i++) {
-            boolean changes = random.nextInt(100) < (i < 60 ? 85 : 30);
+        while (calls.size() < CALLS - COMPARISON - 90) {
+            boolean changes = random.nextInt(100) < (calls.size() < 60 ? 85 : 40);
             if (changes && style == 3 && random.nextInt(3) > 0) {
                 readWhole();
             } else if (changes) {
@@ -48,6 +57,9 @@ public final class RandomRunsTest {
             }
         }
         compareAll();
+        while (calls.size() < CALLS) {
+            ask();
+        }
     }
 
     private int place() {
@@ -122,7 +134,7 @@ public final class RandomRunsTest {
                 due("way " + a + " " + b + " " + is, rings.way(a, b, is), model.way(a, b, is));
             }
         }
-        if (random.nextInt(10) == 0) {
+        if (random.nextInt(30) == 0 && calls.size() < CALLS - 2 * COMPARISON) {
             compareAll();
         }
     }
@@ -186,6 +198,35 @@ public final class RandomRunsTest {
                 break;
             default:
                 due("read", rings.read(), model.read());
+        }
+    }
+
+    /** A field of many places with few ways each, where winners and choices are hard to find. */
+    private void compareField() {
+        int size = 5 + random.nextInt(8);
+        int greatest = 1 + random.nextInt(5);
+        int ways = 2 + random.nextInt(2);
+        for (int i = 0; i < size; i++) {
+            int owner = random.nextInt(2);
+            int rank = random.nextInt(greatest + 1);
+            due("add " + owner + " " + rank, rings.add(owner, rank), model.add(owner, rank));
+        }
+        for (int i = 0; i < size * ways; i++) {
+            int from = i % size;
+            int to = random.nextInt(size);
+            due("way " + from + " " + to + " 1", rings.way(from, to, 1), model.way(from, to, 1));
+        }
+        compareAll();
+        for (int place = 0; place < size; place++) {
+            for (int what = 0; what <= 1; what++) {
+                due("littleChange " + place + " " + what, rings.littleChange(place, what),
+                    model.littleChange(place, what));
+            }
+            int to = random.nextInt(size);
+            due("only " + place + " " + to, rings.only(place, to), model.only(place, to));
+        }
+        while (calls.size() < CALLS) {
+            ask();
         }
     }
 
