@@ -154,7 +154,8 @@ public final class LanguageTest extends TreeScanner<Void, Void> {
     public Void visitMethodInvocation(MethodInvocationTree call, Void nothing) {
         String text = call.getMethodSelect().toString();
         if (!methods.isEmpty()) {
-            calls.computeIfAbsent(methods.peek(), name -> new HashSet<>()).add(text.substring(text.lastIndexOf('.') + 1));
+            calls.computeIfAbsent(methods.peek(), name -> new HashSet<>())
+                .add(text.substring(text.lastIndexOf('.') + 1));
         }
         return super.visitMethodInvocation(call, nothing);
     }
